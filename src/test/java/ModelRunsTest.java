@@ -390,7 +390,7 @@ public final class ModelRunsTest {
         return same(run, call, "hints", x.hints(), m.hints.size());
     }
 
-    /** 412 calls: whether each node is up, each node's entries (48 places on each, as a stamp and as a value) and wipes (6 on each). */
+    /** 412 calls: of each node 48 places, as a stamp and as a value, 6 wipes, and whether it is up. */
     private static void lookAtAll(int run, QuorumCells x, Model m) {
         for (int partition = 0; partition < 8; partition++) {
             for (int node : Model.replicas(partition)) {

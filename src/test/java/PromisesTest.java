@@ -68,6 +68,7 @@ public final class PromisesTest {
         promise = 11;
         compactDropsHiddenThenDeadThenWipes();
         compactBoundsAreStrict();
+        compactOfEveryNode();
         compactFlushes();
         compactOfADownNodeAndWrongNumbers();
         promise = 12;
@@ -667,17 +668,20 @@ public final class PromisesTest {
         x.write(0, 1, 1, 1);
         x.write(1, 2, 2, 1);
         x.wipe(4, 3, 1);
-        due("six hints", x.hints(), 6);
-        due("three for 1", x.up(1), 4);
-        due("three left", x.hints(), 3);
+        x.erase(33, 4, 1);
+        due("eight hints", x.hints(), 8);
+        due("four for 1", x.up(1), 5);
+        due("four left", x.hints(), 4);
         due("0 is down", x.stamp(0, 0), ABSENT);
         due("1 has the first", x.local(1, 0), 1);
         due("1 has the second", x.local(1, 1), 2);
         x.write(2, 9, 9, 1);
-        due("three and one for 0", x.up(0), 5);
+        due("four and one for 0", x.up(0), 6);
         due("0 has the first", x.local(0, 0), 1);
         due("0 has the second", x.local(0, 1), 2);
         due("0 has the wipe", x.wiped(0, 4), 3);
+        due("0 has the erase", x.stamp(0, 33), 4);
+        due("it is DEAD", x.local(0, 33), ABSENT);
         due("0 has the last", x.local(0, 2), 9);
         due("none left", x.hints(), 0);
     }
@@ -824,6 +828,24 @@ public final class PromisesTest {
         y.write(2, 5, LEAST, 1);
         due("a live one always stays", y.compact(0, GREATEST), 2);
         due("with its value", y.local(0, 2), 5);
+    }
+
+    private static void compactOfEveryNode() {
+        QuorumCells x = new QuorumCells(1);
+        for (int place = 0; place < 64; place++) {
+            x.write(place, place, 1 + place % 8, 1);
+        }
+        for (int partition = 0; partition < 8; partition++) {
+            x.wipe(partition, 3, 1);
+            x.erase(8 * partition + 7, 9, 1);
+        }
+        for (int node = 0; node < 4; node++) {
+            due("of 8 in each of 6 partitions 3 hidden and 1 DEAD go", x.compact(node, 10), 6 * 4);
+            for (int partition = 0; partition < 8; partition++) {
+                due("the wipes go", x.wiped(node, partition), ABSENT);
+            }
+        }
+        due("live ones are left", x.sum(7, 3), 59 + 60 + 61 + 62);
     }
 
     private static void compactFlushes() {
@@ -1066,7 +1088,7 @@ public final class PromisesTest {
         QuorumCells x = new QuorumCells(1);
         x.down(0);
         for (int cell = 0; cell < 8; cell++) {
-            x.write(cell, 1, 100 - cell, 1);
+            x.write(cell, cell + 1, 100 - cell, 1);
         }
         x.wipe(4, 1, 1);
         for (int cell = 0; cell < 6; cell++) {
@@ -1076,10 +1098,12 @@ public final class PromisesTest {
         due("twelve and one", x.up(0), 13);
         for (int cell = 0; cell < 8; cell++) {
             due("the first three went", x.stamp(0, cell), cell < 3 ? ABSENT : 100 - cell);
+            due("the others have their value", x.local(0, cell), cell < 3 ? ABSENT : cell + 1);
         }
         due("the wipe is here", x.wiped(0, 4), 1);
         for (int cell = 0; cell < 6; cell++) {
             due("the last ones are here", x.stamp(0, 32 + cell), 2);
+            due("they are DEAD", x.local(0, 32 + cell), ABSENT);
         }
         x.down(0);
         x.write(0, 5, 5, 1);
