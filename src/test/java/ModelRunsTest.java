@@ -8,15 +8,10 @@ import java.util.Map;
  * class: maps of entries that never change, and lists of nodes. Long runs use up the 512 calls of an object; short
  * ones leave enough of them to look at the end at all that the nodes hold.
  */
-public final class ModelRunsTest {
+public final class ModelRunsTest extends Checks {
     private static final int RUNS = 3000;
     private static final int LONG_RUN = 512;
     private static final int SHORT_RUN = 100;
-
-    private static final int REFUSED = -1;
-    private static final int UNAVAILABLE = -2;
-    private static final long ABSENT = 1000000000000L;
-    private static final long NONE = -1000000000000L;
 
     /** An entry with a value, a DEAD one (value null), or a wipe (value null). */
     private record Item(int stamp, Integer value) {
@@ -288,24 +283,17 @@ public final class ModelRunsTest {
         }
     }
 
-    private static int wrong = 0;
-
     private static boolean same(int run, int call, String what, long got, long want) {
-        if (got != want) {
-            wrong++;
-            System.out.println("run " + run + ", call " + call + ": " + what + " answered " + got + ", due is " + want);
-        }
-        return got == want;
+        // A line is made only for a wrong answer: there are more than a million right ones.
+        return got == want || due("run " + run + ", call " + call + ": " + what, got, want);
     }
 
     public static void main(String[] args) {
-        for (int run = 0; run < RUNS && wrong == 0; run++) {
+        about("as the model");
+        for (int run = 0; run < RUNS && allAsDue(); run++) {
             run(run);
         }
-        System.out.println(wrong == 0 ? "all runs are as the model's" : wrong + " answers are not as due");
-        if (wrong != 0) {
-            System.exit(1);
-        }
+        end();
     }
 
     private static void run(int run) {

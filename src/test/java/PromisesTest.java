@@ -1,96 +1,71 @@
 /** For each promise of the document: ordinary inputs, the edges it names, and wrong inputs. */
-public final class PromisesTest {
-    private static final int REFUSED = -1;
-    private static final int UNAVAILABLE = -2;
-    private static final long ABSENT = 1000000000000L;
-    private static final long NONE = -1000000000000L;
-    private static final int LEAST = Integer.MIN_VALUE;
-    private static final int GREATEST = Integer.MAX_VALUE;
-
-    private static final int[] WRONG_PLACES = {-1, 64, LEAST, GREATEST};
-    private static final int[] WRONG_PARTITIONS = {-1, 8, LEAST, GREATEST};
-    private static final int[] WRONG_NODES = {-1, 4, LEAST, GREATEST};
-    private static final int[] WRONG_LEVELS = {0, 4, -1, LEAST, GREATEST};
-
-    private static int promise = 0;
-    private static int wrong = 0;
-
-    private static void due(String what, long got, long want) {
-        if (got != want) {
-            wrong++;
-            System.out.println("promise " + promise + ": " + what + ": answered " + got + ", due is " + want);
-        }
-    }
-
+public final class PromisesTest extends Checks {
     public static void main(String[] args) {
-        promise = 1;
+        about("promise 1");
         newObjectIsEmpty();
         newObjectKeepsHintsUnlessZero();
         newObjectsShareNothing();
-        promise = 2;
+        about("promise 2");
         writeReachesTheThreeReplicas();
         writeKeepsTheNewer();
         writeWithNodesDown();
         writeHintsInTheOrderOfReplicas();
         writeWithWrongNumbers();
-        promise = 3;
+        about("promise 3");
         eraseLeavesDeadEntries();
         eraseAgainstWrites();
         eraseWithNodesDown();
         eraseWithWrongNumbers();
-        promise = 4;
+        about("promise 4");
         wipeHidesUpToItsStamp();
         wipeKeepsTheNewer();
         wipeWithNodesDown();
         wipeWithWrongNumbers();
-        promise = 5;
+        about("promise 5");
         readAsksAsManyAsTheLevel();
         readSkipsNodesThatAreDown();
         readRepairsEntryAndWipe();
         readPrefersDeadAndGreaterValues();
         readUnavailableChangesNothing();
         readWithWrongNumbers();
-        promise = 6;
+        about("promise 6");
         sumAddsLiveValuesAsLong();
         sumRepairsAllPlacesAskedOnly();
         sumUnavailableAndWrongNumbers();
-        promise = 7;
+        about("promise 7");
         downKeepsWhatIsHeld();
-        promise = 8;
+        about("promise 8");
         upTakesHintsIn();
         upLeavesHintsOfOthers();
-        promise = 9;
+        about("promise 9");
         crashRestoresFlushedContent();
         crashOfADownNode();
-        promise = 10;
+        about("promise 10");
         flushKeepsEntriesAndWipes();
         flushOfADownNode();
-        promise = 11;
+        about("promise 11");
         compactDropsHiddenThenDeadThenWipes();
         compactBoundsAreStrict();
         compactOfEveryNode();
         compactFlushes();
         compactOfADownNodeAndWrongNumbers();
-        promise = 12;
+        about("promise 12");
         repairExchangesBothWays();
         repairSparesPartitionsNotShared();
         repairOfAllPairsCountsSharedPlaces();
         repairUnavailableAndRefused();
-        promise = 13;
+        about("promise 13");
         isUpTellsTheState();
-        promise = 14;
+        about("promise 14");
         localTellsLiveValues();
-        promise = 15;
+        about("promise 15");
         stampTellsAnyEntry();
-        promise = 16;
+        about("promise 16");
         wipedTellsTheWipe();
-        promise = 17;
+        about("promise 17");
         hintsAreTwelveAtMost();
         hintsThatWereDroppedAreTheOldest();
-        System.out.println(wrong == 0 ? "all promises hold" : wrong + " answers are not as due");
-        if (wrong != 0) {
-            System.exit(1);
-        }
+        end();
     }
 
     // 1
