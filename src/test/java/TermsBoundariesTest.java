@@ -1,3 +1,5 @@
+import java.util.function.ToLongFunction;
+
 /**
  * One test of its own for each sentence that names a boundary case and stands before the promises: under "What it is"
  * and "Terms". Each begins with the sentence.
@@ -165,26 +167,16 @@ public final class TermsBoundariesTest extends Checks {
     private static void meets(Item held, Item taken, Item kept) {
         String what = held + " meets " + taken;
         meetsByCallAndHint(what, held, taken, kept);
+        meetsBetweenNodes(what + " by read", apart(held, taken), x -> x.read(0, 2), kept);
+        meetsBetweenNodes(what + " by sum", apart(held, taken), x -> x.sum(0, 2), kept);
+        meetsBetweenNodes(what + " by repair", apart(held, taken), x -> x.repair(0, 1), kept);
+        meetsBetweenNodes(what + " by repair the other way", apart(held, taken), x -> x.repair(1, 0), kept);
+    }
 
-        QuorumCells read = apart(held, taken);
-        read.read(0, 2);
-        kept.isHeld(what + " by read", read, 0);
-        kept.isHeld(what + " by read", read, 1);
-
-        QuorumCells sum = apart(held, taken);
-        sum.sum(0, 2);
-        kept.isHeld(what + " by sum", sum, 0);
-        kept.isHeld(what + " by sum", sum, 1);
-
-        QuorumCells repair = apart(held, taken);
-        repair.repair(0, 1);
-        kept.isHeld(what + " by repair", repair, 0);
-        kept.isHeld(what + " by repair", repair, 1);
-
-        QuorumCells back = apart(held, taken);
-        back.repair(1, 0);
-        kept.isHeld(what + " by repair the other way", back, 0);
-        kept.isHeld(what + " by repair the other way", back, 1);
+    private static void meetsBetweenNodes(String what, QuorumCells x, ToLongFunction<QuorumCells> call, Item kept) {
+        call.applyAsLong(x);
+        kept.isHeld(what, x, 0);
+        kept.isHeld(what, x, 1);
     }
 
     private static void meetsByCallAndHint(String what, Item held, Item taken, Item kept) {
